@@ -32,7 +32,9 @@ final class Script {
     Script then(String... calls) {
         for (String row : calls) {
             for (String call : row.split(";")) {
-                check(call);
+                if (!call.isBlank()) {
+                    check(call);
+                }
             }
         }
         return this;
