@@ -458,10 +458,8 @@ public final class SignatureChanger {
             return types;
         }
 
+        /** Of two methods with the same signature. */
         private boolean sameParameters(int one, int other) {
-            if (arity[one] != arity[other]) {
-                return false;
-            }
             for (int index = 0; index < arity[one]; index++) {
                 boolean sameKey = keyOf(one, index) == keyOf(other, index);
                 if (!sameKey || defaultOf(one, index) != defaultOf(other, index)) {
@@ -471,7 +469,7 @@ public final class SignatureChanger {
             return true;
         }
 
-        /** Whether all methods of the set have the same parameter list. */
+        /** Whether all methods of the set, which have one signature, have the same parameter list. */
         boolean agree(int set) {
             int first = smallest(set);
             if (first == NONE) {

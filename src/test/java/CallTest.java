@@ -77,6 +77,8 @@ public final class CallTest {
         Script.play("6 more parameters", frozen + "startChange(0) = 1; keepParameter(0) = 1; keepParameter(1) = 2; insertParameter(0) = 2; applyChange() = 0; setFrozen(0,0) = -2");
         // Via another length the list becomes one of the same length with other keys.
         Script.play("6 other keys", frozen + "startChange(0) = 1; keepParameter(0) = 1; applyChange() = 0; startChange(0) = 1; insertParameter(0) = 1; insertParameter(0) = 2; applyChange() = 0; parameterCount(0) = 2; setFrozen(0,0) = -2");
+        Script.play("6 another first key", frozen + "startChange(0) = 1; keepParameter(0) = 1; keepParameter(1) = 2; insertParameter(0) = 2; applyChange() = 0; startChange(0) = 1; keepParameter(2) = 1; keepParameter(1) = 2; applyChange() = 0; parameterKey(0,0) = 2; parameterKey(0,1) = 1; setFrozen(0,0) = -2");
+        Script.play("6 another last key", frozen + "startChange(0) = 1; keepParameter(0) = 1; keepParameter(1) = 2; insertParameter(0) = 2; applyChange() = 0; startChange(0) = 1; keepParameter(0) = 1; keepParameter(2) = 2; applyChange() = 0; parameterKey(0,0) = 0; parameterKey(0,1) = 2; setFrozen(0,0) = -2");
         Script.play("6 another order", frozen + "startChange(0) = 1; keepParameter(1) = 1; applyChange() = 0; startChange(0) = 1; keepParameter(0) = 1; insertParameter(0) = 0; applyChange() = 0; parameterKey(0,0) = 1; parameterKey(0,1) = 0; setFrozen(0,0) = -2");
         Script.play("6 the keys are back", frozen + "startChange(0) = 1; keepParameter(0) = 1; applyChange() = 0; setFrozen(0,0) = -2; startChange(0) = 1; keepParameter(0) = 1; insertParameter(6) = 1; applyChange() = 0; setFrozen(0,0) = 0; setFrozen(0,0) = -2; run(0) = 0");
     }

@@ -140,6 +140,7 @@ public final class ChangeTest {
         Script.play("24 the same keys in their order", frozen + keep(0, 1), "applyChange() = 1; setFrozen(0,0) = 0");
         Script.play("24 another order", frozen + keep(1, 0), "applyChange() = -2; insertParameter(2) = 2; applyChange() = 1; run(0) = 6; run(1) = 10; argumentCount(0) = 2; argumentCount(1) = 3");
         Script.play("24 another key", frozen + keep(0), "insertParameter(0) = 2; applyChange() = -2; clashingMethod() = -9; insertParameter(0) = 3; applyChange() = 1");
+        Script.play("24 another first key", frozen + "insertParameter(0) = 2; keepParameter(1) = 2; applyChange() = -2; clashingMethod() = -9; bridgeTypes() = 1; keepParameter(0) = 3; applyChange() = 1");
         Script.play("24 none kept", frozen + "insertParameter(0) = 2; insertParameter(0) = 3; applyChange() = -2; undo() = 5; setFrozen(0,0) = 0; startChange(0) = 1; insertParameter(0) = 2; insertParameter(0) = 3; applyChange() = 2");
         Script.play("24 fewer", frozen + keep(1), "applyChange() = 1; run(0) = 0; run(1) = 0; argumentCount(0) = 2; argumentCount(1) = 1");
         Script.play("24 no parameters", "declareType(0,-1,0) = 0; declareMethod(0,0,0) = 0; declareCall(0,0,0,0) = 0; setFrozen(0,1) = 1; startChange(0) = 1; applyChange() = 0; startChange(0) = 1; insertParameter(2) = 0; applyChange() = 0; run(0) = 2");

@@ -15,6 +15,9 @@ public final class UndoTest {
             "setArgument(0,1,0,9) = 0; run(0) = 18; setArgument(0,1,2,0) = 0; run(0) = 0; undo() = 4; run(0) = 18; undo() = 3; run(0) = 0; setFrozen(0,1) = 1; undo() = 3; setFrozen(0,0) = -2; setFrozen(0,1) = 1; setFrozen(0,0) = 0; undo() = 4; setFrozen(0,1) = -2; undo() = 3");
         Script.play("25 a change", "declareType(0,-1,0) = 0; declareMethod(0,0,2) = 0; declareCall(0,0,0,2) = 0; setArgument(0,0,2,0) = 0; setArgument(0,1,2,0) = 0; startChange(0) = 1; keepParameter(1) = 1; insertParameter(4) = 2; applyChange() = 1; temporaryCount(0) = 1; run(0) = 14; undo() = 5",
             "temporaryCount(0) = 0; argumentCount(0) = 2; argumentKind(0,0) = 2; run(0) = 2; parameterCount(0) = 2; parameterKey(0,0) = 0; parameterKey(0,1) = 1; applyChange() = -2; undo() = 4; argumentKind(0,1) = 0; setFrozen(0,1) = 1; setFrozen(0,0) = 0");
+        Script.play("25 another length", "declareType(0,-1,0) = 0; declareMethod(0,0,2) = 0; declareCall(0,0,0,2) = 0; setArgument(0,0,0,3) = 0; setArgument(0,1,0,4) = 0; run(0) = 11; startChange(0) = 1; keepParameter(1) = 1; applyChange() = 1; run(0) = 8; argumentCount(0) = 1; undo() = 5; argumentCount(0) = 2; run(0) = 11; parameterCount(0) = 2");
+        // Only a frozen call without an argument for it shows a default value.
+        Script.play("25 default values", "declareType(0,-1,0) = 0; declareMethod(0,0,0) = 0; declareCall(0,0,0,0) = 0; setFrozen(0,1) = 1; startChange(0) = 1; insertParameter(7) = 0; applyChange() = 0; run(0) = 7; startChange(0) = 1; applyChange() = 0; run(0) = 0; startChange(0) = 1; insertParameter(9) = 0; applyChange() = 0; run(0) = 9; undo() = 6; run(0) = 0; undo() = 5; run(0) = 7");
         Script.play("25 equal edits count", "declareType(0,-1,0) = 0; declareMethod(0,0,1) = 0; declareCall(0,0,0,1) = 0; setArgument(0,0,0,0) = 0; undo() = 3; startChange(0) = 1; keepParameter(0) = 1; applyChange() = 1; undo() = 3");
     }
 
