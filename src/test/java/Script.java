@@ -5,9 +5,13 @@ import java.util.Map;
 import java.util.regex.Matcher;
 import java.util.regex.Pattern;
 
-/** Plays runs of calls that are written as in the document: "declareType(0,-1,0) = 0; undo() = 0". */
+/**
+ * Plays runs of calls that are written as in the document: "declareType(0,-1,0) = 0; undo() = 0". A call may be
+ * told several times at once, "3 x typeCount() = 0", and a constant has its value, "NONE = -9".
+ */
 final class Script {
-    private static final Pattern CALL = Pattern.compile("\\s*(\\w+)\\(([^)]*)\\)\\s*=\\s*(-?\\d+)\\s*");
+    private static final Pattern CALL = Pattern.compile("(?:(\\d+) x )?(\\w+)\\(([^)]*)\\)\\s*=\\s*(-?\\d+)");
+    private static final Pattern CONSTANT = Pattern.compile("([A-Z_]+) = (-?\\d+)");
     private static final Map<String, Method> METHODS = new HashMap<>();
 
     static {
@@ -16,8 +20,9 @@ final class Script {
         }
     }
 
-    private final String title;
+    private String title;
     private final SignatureChanger changer = new SignatureChanger();
+    private int calls = 0;
 
     private Script(String title) {
         this.title = title;
@@ -33,7 +38,7 @@ final class Script {
         for (String row : calls) {
             for (String call : row.split(";")) {
                 if (!call.isBlank()) {
-                    check(call);
+                    read(call.trim());
                 }
             }
         }
@@ -42,19 +47,42 @@ final class Script {
 
     /** Plays the same call several times. */
     Script times(int count, String call) {
-        for (int i = 0; i < count; i++) {
-            check(call);
-        }
+        return then(count + " x " + call);
+    }
+
+    /** Gives the calls that follow another title. */
+    Script as(String newTitle) {
+        title = newTitle;
         return this;
     }
 
-    private void check(String text) {
+    private void read(String text) {
+        Matcher constant = CONSTANT.matcher(text);
         Matcher call = CALL.matcher(text);
-        if (!call.matches()) {
-            throw new IllegalArgumentException("no call: " + text);
+        if (constant.matches()) {
+            Due.is(title + ": " + constant.group(1), Integer.parseInt(constant.group(2)), valueOf(constant.group(1)));
+        } else if (call.matches()) {
+            int count = call.group(1) == null ? 1 : Integer.parseInt(call.group(1));
+            for (int i = 0; i < count; i++) {
+                check(call.group(2), call.group(3), Integer.parseInt(call.group(4)));
+            }
+        } else {
+            throw new IllegalArgumentException(title + ": no call: " + text);
         }
-        int due = Integer.parseInt(call.group(3));
-        Due.is(title + ": " + call.group(1) + "(" + call.group(2) + ")", due, answer(call.group(1), call.group(2)));
+    }
+
+    private void check(String name, String list, int due) {
+        calls++;
+        Due.is(title + ": call " + calls + ", " + name + "(" + list + ")", due, answer(name, list));
+        Due.holds(title + ": an object is used for at most 512 calls", calls <= 512);
+    }
+
+    private static int valueOf(String constant) {
+        try {
+            return SignatureChanger.class.getField(constant).getInt(null);
+        } catch (ReflectiveOperationException missing) {
+            throw new IllegalStateException("no constant " + constant, missing);
+        }
     }
 
     private int answer(String name, String list) {
